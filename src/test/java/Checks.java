@@ -5,24 +5,55 @@ final class Checks {
     static final int NO_NUMBER = -2147483647;
 
     private final String title;
+    /** What is printed ahead of a wrong answer: the test, and the sentence that it is of. */
+    private String heading;
+    private int sentences;
     private int done;
     private int wrong;
 
     Checks(String title) {
         this.title = title;
+        heading = title;
+    }
+
+    /**
+     * A test of one sentence of the document, told by its promise and its own words. With -Dlist=yes
+     * it is named only: Broken wants to know which sentences there are.
+     */
+    void edge(int promise, String words, Runnable test) {
+        sentences++;
+        heading = title + ", promise " + promise + ", '" + words + "'";
+        if (System.getProperty("list") != null) {
+            done++;
+            System.out.println("sentence of promise " + promise + ": " + words);
+            return;
+        }
+        int before = done;
+        try {
+            test.run();
+        } catch (RuntimeException thrown) {
+            wrong++;
+            System.out.println(heading + ": threw " + thrown);
+        }
+        if (done == before) {
+            wrong++;
+            System.out.println(heading + ": checks nothing");
+        }
+        heading = title;
     }
 
     void due(String call, long got, long want) {
         done++;
         if (got != want) {
             wrong++;
-            System.out.println(title + ": " + call + " answered " + got + ", due is " + want);
+            System.out.println(heading + ": " + call + " answered " + got + ", due is " + want);
         }
     }
 
     /** Ends the test: with exit code 1 if an answer was not the one that is due. */
     void finish() {
-        System.out.println(title + ": " + done + " checks, " + wrong + " wrong");
+        String of = sentences == 0 ? "" : sentences + " sentences, ";
+        System.out.println(title + ": " + of + done + " checks, " + wrong + " wrong");
         if (wrong != 0 || done == 0) {
             System.exit(1);
         }
@@ -58,6 +89,15 @@ final class Checks {
     static int program(DrumCoder x, String text) {
         onTape(x, text);
         return x.program();
+    }
+
+    /** So many lines, each with its number: aa=0; ab=1; .. */
+    static String numbers(int count) {
+        StringBuilder text = new StringBuilder();
+        for (int i = 0; i < count; i++) {
+            text.append((char) ('a' + i / 26)).append((char) ('a' + i % 26)).append('=').append(i).append(';');
+        }
+        return text.toString();
     }
 
     static DrumCoder with(String program) {

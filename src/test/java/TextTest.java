@@ -233,33 +233,25 @@ public final class TextTest {
         c.programFault("A=1;", 1, 0);
     }
 
-    private static String numbers(int count) {
-        StringBuilder text = new StringBuilder();
-        for (int i = 0; i < count; i++) {
-            text.append((char) ('a' + i / 26)).append((char) ('a' + i % 26)).append('=').append(i).append(';');
-        }
-        return text.toString();
-    }
-
     private static void programRoom() {
         DrumCoder x = new DrumCoder();
-        c.due("program() of 33 names on 32 spots", Checks.program(x, numbers(33)), -3);
+        c.due("program() of 33 names on 32 spots", Checks.program(x, Checks.numbers(33)), -3);
         c.due("fault(0) when FULL", x.fault(0), 0);
         c.due("fault(1) when FULL", x.fault(1), -1);
         c.due("told(6) when FULL", x.told(6), 0);
-        c.due("program() of 32 names on 32 spots", Checks.program(x, numbers(32)), 32);
+        c.due("program() of 32 names on 32 spots", Checks.program(x, Checks.numbers(32)), 32);
         c.due("spot(31)", x.spot(31), 31);
         x.entry(3);
         x.lay(0, 0);
         x.keep(1);
         x.run();
-        c.due("program() of 40 names on 32 spots", Checks.program(x, numbers(40)), -3);
+        c.due("program() of 40 names on 32 spots", Checks.program(x, Checks.numbers(40)), -3);
         c.due("told(3) when FULL", x.told(3), 32);
         c.due("told(4) when FULL", x.told(4), 3);
         c.due("take(1) when FULL", x.take(1) > 0 ? 1 : 0, 1);
         c.due("ran(2) when FULL", x.ran(2), 3);
         Checks.drum(x, "words 20;long;long;");
-        String forty = numbers(40);
+        String forty = Checks.numbers(40);
         c.due("program() of 40 names on 40 spots", Checks.program(x, forty), 40);
         c.due("told(4) behind program()", x.told(4), 0);
         c.due("value(39)", x.value(39), 39);
