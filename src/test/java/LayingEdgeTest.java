@@ -87,8 +87,8 @@ public final class LayingEdgeTest {
     }
 
     private static void spotNumbers() {
-        DrumCoder x = Checks.with("words 9;quick 2;quick 2;long;", "a:stop;b=1;c=2;d=3;e=4;");
-        int[] due = {0, 1, 9, 10, 18};
+        DrumCoder x = Checks.with("words 9;quick 2;quick 3;long;", "a:stop;b=1;c=2;d=3;e=4;f=5;");
+        int[] due = {0, 1, 9, 10, 11, 18};
         for (int i = 0; i < due.length; i++) {
             c.due("spot(" + i + ")", x.spot(i), due[i]);
         }
@@ -233,9 +233,12 @@ public final class LayingEdgeTest {
         // on quick tracks of 2: a 0..1, w 1..2, c 2..3; times takes 2 more and a bit: c at 6
         String[] ops = {"load", "add", "less", "times", "store"};
         int[] due = {3, 3, 3, 7, 3};
+        int[] least = {3, 3, 3, 6, 3};
         for (int i = 0; i < ops.length; i++) {
             DrumCoder x = Checks.with("words 8;quick 2;quick 2;", "a:" + ops[i] + " w to c;w=1;c:stop;");
             c.due("time() of " + ops[i], x.time(), due[i]);
+            x.run();
+            c.due("ran(5) of " + ops[i], x.ran(5), least[i]);
         }
         // neg and zero don't wait for theirs, whether it is next or not: a 0..1, c at 1
         for (String op : new String[] {"neg", "zero"}) {
@@ -265,6 +268,11 @@ public final class LayingEdgeTest {
         DrumCoder y = Checks.with("a:load v;b:store w;c:times w;d:stop;v=7;w=0;");
         y.run();
         c.due("ran(5)", y.ran(5), 2 + 2 + 2 + 2 + 3 + 1);
+        // W is NAME 0
+        DrumCoder z = Checks.with("w=7;a:times w;b:stop;");
+        z.entry(1);
+        z.run();
+        c.due("ran(5) by NAME 0", z.ran(5), 2 + 2 + 3 + 1);
     }
 
     private static void printTakesMore() {
@@ -485,9 +493,25 @@ public final class LayingEdgeTest {
         c.due("spot(1)", y.spot(1), 21);
         c.due("spot(2)", y.spot(2), 5);
         c.due("exchange() of one name", Checks.with("a:stop;").exchange(), 1);
+        // both at place 1, but one of them comes round quickly: 2000 times 2 rather than 2000 times 8
+        DrumCoder z = Checks.with("words 8;long;quick 2;", "a:halve to a;b=1;");
+        z.lay(1, 9);
+        z.lay(0, 1);
+        c.due("time()", z.time(), 1999 * 8 + 2);
+        c.due("exchange()", z.exchange(), 1999 * 2 + 2);
+        c.due("spot(0)", z.spot(0), 9);
+        c.due("spot(1)", z.spot(1), 1);
     }
 
     private static void roundsUntilNothing() {
+        // c 2..3, a 16..17; the first round exchanges a and c: 3; the second one a and b: 2; the third one none
+        DrumCoder two = Checks.with("a:stop;b=1;c:halve to a;");
+        two.entry(2);
+        c.due("exchange() of two rounds", two.exchange(), 2);
+        int[] due = {1, 2, 0};
+        for (int i = 0; i < due.length; i++) {
+            c.due("spot(" + i + ")", two.spot(i), due[i]);
+        }
         DrumCoder x = Checks.with("a:load x;b:add y;c:store z;d:stop;x=5;y=7;z=0;");
         int time = x.exchange();
         c.due("time()", x.time(), time);
@@ -565,6 +589,13 @@ public final class LayingEdgeTest {
         y.spoil(9);
         c.due("exchange() without a", y.exchange(), 10);
         c.due("spot(0)", y.spot(0), 9);
+        // a's next one is left out, and the one behind it is not
+        DrumCoder t = Checks.with("a:stop;b=1;c=2;");
+        t.lay(0, 9);
+        t.spoil(1);
+        c.due("exchange() without b", t.exchange(), 3);
+        c.due("spot(0)", t.spot(0), 2);
+        c.due("spot(1)", t.spot(1), 1);
         DrumCoder z = Checks.with("b=1;a:stop;c=2;");
         z.entry(1);
         z.lay(1, 9);
@@ -639,6 +670,7 @@ public final class LayingEdgeTest {
         for (int i = 0; i < 6; i++) {
             c.due("spot(" + i + ")", x.spot(i), 5 - i);
         }
+        allRowsOf(new int[] {0, 1, 2, 3, 4, 5}, 0);
         // only those of the set are laid anew
         DrumCoder y = Checks.with("a:stop;b=1;c=2;");
         y.lay(0, 9);
@@ -646,6 +678,32 @@ public final class LayingEdgeTest {
         c.due("spot(1) stays", y.spot(1), 1);
         c.due("best(a, b)", y.best(3L), 2);
         c.due("spot(2) stays", y.spot(2), 9);
+    }
+
+    /** Each row of six in its turn is the only best one: that in which the orders follow one another. */
+    private static void allRowsOf(int[] row, int fixed) {
+        if (fixed == row.length) {
+            bestIs(row);
+        }
+        for (int i = fixed; i < row.length; i++) {
+            int[] next = row.clone();
+            next[fixed] = row[i];
+            next[i] = row[fixed];
+            allRowsOf(next, fixed + 1);
+        }
+    }
+
+    private static void bestIs(int[] row) {
+        DrumCoder x = Checks.with("a:stop;b=0;c=0;d=0;e=0;f=0;");
+        for (int i = 0; i < 6; i++) {
+            x.set(row[i], i == 5 ? 0 : 90000 + row[i + 1]);
+        }
+        x.entry(row[0]);
+        String of = " with " + java.util.Arrays.toString(row);
+        c.due("best of six" + of, x.best(63L), 6);
+        for (int i = 0; i < 6; i++) {
+            c.due("spot(" + row[i] + ")" + of, x.spot(row[i]), i);
+        }
     }
 
     private static void leastRow() {
@@ -709,7 +767,7 @@ public final class LayingEdgeTest {
         c.due("take(0): b lies on a's spot", x.take(0), 1);
         c.due("spot(0)", x.spot(0), 0);
         c.due("spot(1)", x.spot(1), 1);
-        c.due("lay(0, 9): it is free again", x.lay(0, 9), 0);
+        c.due("lay(1, 9): it is free again", x.lay(1, 9), 1);
         c.due("take(0) again: it is kept still", x.take(0), 1);
         // its time goes by the values and the entry as they are now
         x.entry(1);
@@ -761,6 +819,15 @@ public final class LayingEdgeTest {
         c.due("spot(1)", x.spot(1), 1);
         x.spoil(0);
         c.due("take(0): a's is BAD", x.take(0), -4);
+        // one goes BAD that no name of the slot lies on, but one of an earlier program did
+        DrumCoder y = Checks.with(Checks.numbers(5));
+        Checks.program(y, "a:stop;b=1;");
+        y.lay(0, 7);
+        y.keep(0);
+        y.spoil(0);
+        y.spoil(2);
+        y.spoil(4);
+        c.due("take(0): none of its spots is BAD", y.take(0), 8);
         // one that lies on a BAD spot as it is kept
         c.due("keep(2)", x.keep(2), 1);
         c.due("take(2)", x.take(2), -4);

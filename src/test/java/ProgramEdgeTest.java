@@ -343,11 +343,23 @@ public final class ProgramEdgeTest {
         c.programTold("a=5;b:load a;", 5, 10001);
         c.programTold("a:halve to a;b:halve to a;c:halve to b;", 90000, 90000, 90001);
         c.programTold("a:neg c;b:stop;c:zero a;", 60201, 2, 70002);
+        // a "to" of an earlier program is none of a later one's
+        DrumCoder x = Checks.with("a:halve to c;b:halve to a;c:halve to a;");
+        Checks.program(x, "a:halve;b:halve;c:halve;");
+        c.due("value(0)", x.value(0), 90001);
+        c.due("value(1)", x.value(1), 90002);
+        c.due("value(2)", x.value(2), 90002);
     }
 
     private static void wordZero() {
         c.programTold("a=7;b:stop;c:print;d:halve;", 7, 2, 80003, 90003);
         c.programTold("a=7;b:stop to b;c:print to b;d:halve to b;", 7, 1, 80001, 90001);
+        // a W of an earlier program is none of a later one's
+        DrumCoder x = Checks.with("a:load b;b:load b;c:neg c;");
+        Checks.program(x, "a:stop;b:print;c:halve;");
+        c.due("value(0)", x.value(0), 1);
+        c.due("value(1)", x.value(1), 80002);
+        c.due("value(2)", x.value(2), 90002);
     }
 
     private static void staysWithAFault() {
@@ -448,7 +460,7 @@ public final class ProgramEdgeTest {
         for (int i = 0; i < due.length; i++) {
             c.due("spot(" + i + ")", x.spot(i), due[i]);
         }
-        c.due("lay(0, 15): none lies there now", x.lay(0, 15), 0);
+        c.due("lay(3, 15): none lies there now", x.lay(3, 15), 8);
         c.due("program() of all that fit", Checks.program(x, Checks.numbers(11)), 11);
         c.due("spot(10)", x.spot(10), 15);
     }

@@ -298,7 +298,7 @@ public final class QuestionEdgeTest {
             kinds(x, 1, 0, 1, 1);
         }
         // the W of print, halve and stop leads nowhere, nor does that of load
-        DrumCoder y = Checks.with("a=80201;b=90202;c=301;d:stop;");
+        DrumCoder y = Checks.with("a=80301;b=90302;c=302;d:stop;");
         kinds(y, 1, 1, 1, 0);
         DrumCoder z = Checks.with("a:load c;b:stop;c:halve to d;d:stop;");
         kinds(z, 1, 1, 2, 0);
@@ -329,6 +329,11 @@ public final class QuestionEdgeTest {
         DrumCoder z = Checks.with("words 20;long;long;", row);
         for (int i = 0; i < 40; i++) {
             c.due("known(" + i + ") of a row of 40", z.known(i), 1);
+        }
+        // and so that all come back to the first ones again and again
+        DrumCoder back = Checks.with("words 20;long;long;", row.replace(":halve", ":neg aa"));
+        for (int i = 0; i < 40; i++) {
+            c.due("known(" + i + ") of 40 that go back", back.known(i), 1);
         }
     }
 
@@ -401,6 +406,13 @@ public final class QuestionEdgeTest {
         // in another order than they were told
         night(3, 5, 10, 5, 5);
         night(7, 1, 3, 1, 2, 1, 1);
+        for (int i = 0; i < 256; i++) {
+            int[] dues = {1 + i % 4, 1 + i / 4 % 4, 1 + i / 16 % 4, 1 + i / 64};
+            boolean unlike = (1 << dues[0] | 1 << dues[1] | 1 << dues[2] | 1 << dues[3]) == 30;
+            if (unlike) {
+                night(15, 1, dues[0], 1, dues[1], 1, dues[2], 1, dues[3]);
+            }
+        }
         night(255, 1, 8, 1, 7, 1, 6, 1, 5, 1, 4, 1, 3, 1, 2, 1, 1);
         night(127, 1, 7, 1, 7, 1, 6, 1, 5, 1, 4, 1, 3, 1, 2, 1, 1);
         night(255, 9999, 99999, 9999, 99999, 9999, 99999, 9999, 99999,

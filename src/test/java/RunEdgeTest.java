@@ -148,6 +148,8 @@ public final class RunEdgeTest {
 
     private static void valuesAsTheyAre() {
         DrumCoder x = Checks.with("a:load b;b:stop;c=3;");
+        x.run();
+        c.due("ran(1) at first", x.ran(1), 2);
         x.set(0, 10201);
         x.set(2, MIN);
         x.run();
@@ -358,6 +360,11 @@ public final class RunEdgeTest {
         c.due("of(2, 3) of the first", x.of(2, 3), 5);
         x.run();
         c.due("ran(1) of the second", x.ran(1), 6);
+        // nothing of the first is counted again
+        c.due("of(0, 0) of the second", x.of(0, 0), 1);
+        c.due("of(2, 1) of the second", x.of(2, 1), 1);
+        int waiting = x.of(0, 2) + x.of(1, 2) + x.of(2, 2);
+        c.due("waiting in the second", waiting, x.ran(4) - x.ran(5));
         x.entry(1);
         x.run();
         c.due("ran(1) of the third", x.ran(1), 0);
@@ -603,13 +610,13 @@ public final class RunEdgeTest {
 
     private static void shareByFirstSteps() {
         // in STEP 0 w and a begin to live, w is the lesser name; b comes by its STEP, not by its name
-        DrumCoder x = Checks.with("w=1;b:add w;c:stop;a:load w to b;");
-        x.entry(3);
+        DrumCoder x = Checks.with("b:add w to c;w=1;a:load w to b;c:stop;");
+        x.entry(2);
         x.run();
-        c.due("of(w, 7)", x.of(0, 7), 0);
-        c.due("of(a, 7)", x.of(3, 7), 1);
-        c.due("of(b, 7)", x.of(1, 7), 1);
-        c.due("of(c, 7)", x.of(2, 7), 0);
+        c.due("of(w, 7)", x.of(1, 7), 0);
+        c.due("of(a, 7)", x.of(2, 7), 1);
+        c.due("of(b, 7)", x.of(0, 7), 1);
+        c.due("of(c, 7)", x.of(3, 7), 0);
         // the same with w behind a
         DrumCoder y = Checks.with("a:load w;b:add w;c:stop;w=1;");
         y.run();
